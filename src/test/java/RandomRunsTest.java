@@ -71,7 +71,8 @@ public final class RandomRunsTest {
         for (int p = 0; p < people; p++) {
             text.append("person ").append(below(5) == 0 ? 24 : below(13));
             if (below(3) > 0) {
-                int chance = below(8) == 0 ? chances : below(chances / 2 + 1);
+                int like = Math.min(chances, 100 * (1 + below(3)));
+                int chance = below(8) == 0 ? chances : below(3) == 0 ? like : below(chances / 2 + 1);
                 chances -= chance;
                 text.append(" drawn ").append(chance);
             }

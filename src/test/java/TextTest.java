@@ -91,6 +91,15 @@ public final class TextTest {
         fault("person\n24 ;\nwork 0023 0001 ; can 0 0 0009;", 0, -1);
         faultAt("^persons 8;", 1);
         faultAt("^perso 8;", 1);
+        faultAt("^berson 8;", 1);
+        faultAt("^persoa 8;", 1);
+        faultAt("^personz 8;", 1);
+        faultAt("^zperson 8;", 1);
+        faultAt("person^{8;", 1);
+        faultAt("person^`8;", 1);
+        faultAt("person ^/8;", 1);
+        faultAt("person ^:8;", 1);
+        faultAt("person 8^:", 1);
         faultAt("^Person 8;", 1);
         faultAt("^drawn 8;", 1);
         faultAt("^;", 1);
@@ -152,6 +161,7 @@ public final class TextTest {
         fault("forget 50;", 0, -1);
         fault(times("person 1;", 6), 0, -1);
         faultAt(times("person 1;", 6) + "^person 99;", 2);
+        faultAt(times("person 1;", 6) + "^person;", 2);
         fault(times("work 1 1;", 8), 0, -1);
         faultAt(times("work 1 1;", 8) + "^work;", 2);
         StringBuilder learns = new StringBuilder("person 1;").append(times("work 1 1;", 8)).append("person 2;");
@@ -160,12 +170,18 @@ public final class TextTest {
         }
         fault(learns.toString(), 0, -1);
         faultAt(learns + "^learn 1 0 1 1;", 2);
+        faultAt(learns + "^learn;", 2);
+        fault(learns + "can 1 0 1;", 0, -1);
     }
 
     private static void untoldAndTwice() {
         faultAt("can ^0 0 5;", 3);
         faultAt("person 5;can 0 ^0 5;", 3);
         faultAt("person 5;work 1 1;can ^1 0 5;", 3);
+        faultAt("person 5;work 1 1;can ^1 9 99;", 3);
+        faultAt("person 5;work 1 1;learn ^1 0 5 5;", 3);
+        faultAt("person 5;work 1 1;learn 0 ^1 99 99;", 3);
+        faultAt("person 5;work 1 1;learn 0 0 ^99 999;", 2);
         faultAt("person 5;work 1 1;can ^9999 0 5;", 3);
         faultAt("person 5;work 1 1;learn 0 ^1 5 5;", 3);
         faultAt("person 5;work 1 1;learn ^6 1 5 5;", 3);

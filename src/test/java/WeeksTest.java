@@ -26,6 +26,11 @@ public final class WeeksTest {
         Check.due("nobody is never", 1000, () -> like.looks(1));
         Check.due("of like ones the least", 1, () -> like.best(1));
         Check.due("without a look", 600, () -> like.looks(0));
+        FullHouse ties = Check.houseOf("person 9 drawn 400;person 9 drawn 400;person 9 drawn 100;work 1 1;can 0 0 5;can 1 0 5;");
+        Check.due("of a class one alone counts", 400, () -> ties.looks(0));
+        Check.due("of a class one alone counts, with a look", 400, () -> ties.looks(1));
+        FullHouse last = Check.houseOf("person 9 drawn 500;");
+        Check.due("like nobody", 500, () -> last.looks(0));
         Check.due("no works", 1000, () -> new FullHouse().looks(0));
         Check.due("no works: best", 0, () -> new FullHouse().best(0));
         Check.due("no works: best 1", Check.ILLEGAL, () -> new FullHouse().best(1));
