@@ -152,7 +152,7 @@ public final class FullHouse {
 
     public int most(int left) throws IllegalArgumentException {
         checkLeft(left);
-        return lefts.greatestNumber(house, left);
+        return lefts.greatestNumber(left);
     }
 
     public int bars(int left) throws IllegalArgumentException {
@@ -346,6 +346,7 @@ public final class FullHouse {
         picture.stop();
         spans.measure(house);
         lefts.fill(house, spans, house.canDo);
+        lefts.sortByNumber(house);
         learning.reset();
         guest.reset();
     }
@@ -401,8 +402,7 @@ public final class FullHouse {
             if ((ahead >> person & 1) == 0) {
                 int before = Integer.bitCount(ahead);
                 int behind = house.people - 1 - before;
-                int grown = lefts.greatestNumber(house, ahead | 1 << person)
-                        - lefts.greatestNumber(house, ahead);
+                int grown = lefts.greatestNumber(ahead | 1 << person) - lefts.greatestNumber(ahead);
                 growth += FACTORIALS[before] * FACTORIALS[behind] * grown;
             }
         }
@@ -873,6 +873,8 @@ public final class FullHouse {
     /** For each set of works all LEFT who can do just these, LEFT being a bit of a long. */
     private static final class Lefts {
         private final long[] able = new long[SETS_OF_WORKS];
+        /** For each number all LEFT who can do some set of so many works. */
+        private final long[] ableSoMany = new long[MOST_WORKS + 1];
 
         /**
          * People come one by one. Those who were there are LEFT below 1 << person, with him they are
@@ -906,11 +908,19 @@ public final class FullHouse {
             return (able[set] & wanted) == wanted;
         }
 
-        int greatestNumber(House house, int left) {
-            int greatest = 0;
+        /** Readies greatestNumber, for which learning has no use. */
+        void sortByNumber(House house) {
+            Arrays.fill(ableSoMany, 0L);
             for (int set = 0; set <= house.allWorks(); set++) {
-                if (includes(set, 1L << left)) {
-                    greatest = Math.max(greatest, Integer.bitCount(set));
+                ableSoMany[Integer.bitCount(set)] |= able[set];
+            }
+        }
+
+        int greatestNumber(int left) {
+            int greatest = 0;
+            for (int number = 1; number <= MOST_WORKS; number++) {
+                if ((ableSoMany[number] >>> left & 1) != 0) {
+                    greatest = number;
                 }
             }
             return greatest;
@@ -953,40 +963,46 @@ public final class FullHouse {
     }
 
     /**
-     * The best row by a rank, which is a sum over works: what counts most is highest, and the row as
-     * a number of base 8 (a digit each work, work 0 first), taken away, is lowest. So of like rows
-     * the first has the greatest rank, and the rank tells the row.
+     * The best row by a rank, which is a sum over works: what counts most is highest, and lowest is
+     * the row as a code of three bits a work, work 0 first: 0 for nobody, the more the earlier he
+     * comes. So of like rows the first has the greatest rank, and the rank tells the row.
      */
     private static final class Rows {
         static final long NEVER = -1L;
         private static final int CODE_BITS = 24;
         private static final long CODE = (1L << CODE_BITS) - 1;
         /** Above all weeks together that eight works can have. */
-        private static final long ONE_WORK = 1L << 36;
+        private static final long ONE_WORK = 1L << 12;
 
         /** For each set the greatest rank of a row that gives just these to those who came so far. */
         private final long[] ranks = new long[SETS_OF_WORKS];
-        /** For each set the rank of it, if it is all his who comes now; NEVER, if he can't. */
+        /** For each set of what he can do who comes now the rank of it; NEVER: not all at once. */
         private final long[] owns = new long[SETS_OF_WORKS];
         /** For each work what it adds to the rank, if he does it who comes now. */
         private final long[] gains = new long[MOST_WORKS];
+        /** The works that anybody can do who came so far. */
+        private int reached;
 
         static int codeOf(long rank) {
-            return (int) (-rank & CODE);
+            return (int) (rank & CODE);
         }
 
         static int skillsOf(long rank) {
-            return (int) (rank + codeOf(rank) >> CODE_BITS);
+            return (int) (rank >> CODE_BITS);
         }
 
         /** Who does a work in a row: NONE, if nobody. */
         static int doerIn(int code, int work) {
-            int digit = code >> placeOf(work) & 7;
-            return digit == NOBODY ? NONE : digit;
+            int ahead = code >> placeOf(work) & 7;
+            return ahead == 0 ? NONE : NOBODY - ahead;
         }
 
         private static int placeOf(int work) {
             return 3 * (MOST_WORKS - 1 - work);
+        }
+
+        private static long gainOf(long counts, int person, int work) {
+            return (counts << CODE_BITS) + (NOBODY - person << placeOf(work));
         }
 
         /** The rank of THE BEST ROW of those LEFT; NEVER: they can't. */
@@ -995,10 +1011,10 @@ public final class FullHouse {
             for (int person = 0; person < house.people; person++) {
                 if ((left >> person & 1) != 0) {
                     for (int work = 0; work < house.works; work++) {
-                        long skill = house.skills[person * MOST_WORKS + work];
-                        gains[work] = (skill << CODE_BITS) - ((long) person << placeOf(work));
+                        int skill = house.skills[person * MOST_WORKS + work];
+                        gains[work] = gainOf(skill, person, work);
                     }
-                    addPerson(house, spans, person, house.canDo[person]);
+                    addPerson(spans, house.canDo[person], house.hours[person]);
                 }
             }
             return ranks[house.allWorks()];
@@ -1010,41 +1026,30 @@ public final class FullHouse {
             for (int person = 0; person < house.people; person++) {
                 if (person != away) {
                     for (int work = 0; work < house.works; work++) {
-                        long since = weeks.been - weeks.latest[person * MOST_WORKS + work];
-                        gains[work] = ONE_WORK + (since << CODE_BITS)
-                                - ((long) person << placeOf(work));
+                        int since = weeks.been - weeks.latest[person * MOST_WORKS + work];
+                        gains[work] = gainOf(ONE_WORK + since, person, work);
                     }
-                    addPerson(house, spans, person, weeks.known[person]);
+                    addPerson(spans, weeks.known[person], house.hours[person]);
                 }
             }
-            long greatest = Long.MIN_VALUE;
-            for (int set = 0; set <= house.allWorks(); set++) {
-                if (ranks[set] != NEVER) {
-                    greatest = Math.max(greatest, ranks[set] - codeOfNobody(house, set));
-                }
+            long greatest = 0L;
+            for (int set = reached; set > 0; set = (set - 1) & reached) {
+                greatest = Math.max(greatest, ranks[set]);
             }
             return codeOf(greatest);
-        }
-
-        private static long codeOfNobody(House house, int set) {
-            long code = 0;
-            for (int work = 0; work < house.works; work++) {
-                if ((set >> work & 1) == 0) {
-                    code += (long) NOBODY << placeOf(work);
-                }
-            }
-            return code;
         }
 
         private void clear() {
             Arrays.fill(ranks, NEVER);
             ranks[0] = 0L;
+            reached = 0;
         }
 
         /** Going down, smaller sets are still as they were without him. */
-        private void addPerson(House house, Spans spans, int person, int canDo) {
-            rankOwn(house, spans, person, canDo);
-            for (int set = house.allWorks(); set > 0; set--) {
+        private void addPerson(Spans spans, int canDo, int hours) {
+            rankOwn(spans, canDo, hours);
+            reached |= canDo;
+            for (int set = reached; set > 0; set = (set - 1) & reached) {
                 int own = set & canDo;
                 long greatest = ranks[set];
                 for (int part = own; part > 0; part = (part - 1) & own) {
@@ -1057,15 +1062,13 @@ public final class FullHouse {
             }
         }
 
-        private void rankOwn(House house, Spans spans, int person, int canDo) {
+        /** What fits but for its first work fits, if the hours do. */
+        private void rankOwn(Spans spans, int canDo, int hours) {
             owns[0] = 0L;
-            for (int work = 0; work < house.works; work++) {
-                int first = 1 << work;
-                boolean can = (canDo & first) != 0;
-                for (int rest = 0; rest < first; rest++) {
-                    boolean fits = can && owns[rest] != NEVER
-                            && spans.hours[first | rest] <= house.hours[person];
-                    owns[first | rest] = fits ? owns[rest] + gains[work] : NEVER;
+            for (int part = 1; part <= canDo; part++) {
+                if ((part & ~canDo) == 0) {
+                    long gain = gains[Integer.numberOfTrailingZeros(part)];
+                    owns[part] = spans.hours[part] <= hours ? owns[part & part - 1] + gain : NEVER;
                 }
             }
         }
