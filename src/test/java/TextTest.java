@@ -3,22 +3,6 @@ public final class TextTest {
     private static final String SMALL = "person 8 drawn 300;person 5;work 6 2;work 20 4;can 0 0 5;"
             + "can 1 1 9;learn 1 0 3 99;forget 50;";
 
-    /** The fault of a text on a new object, and its place. */
-    private static void fault(String text, int kind, int place) {
-        FullHouse x = new FullHouse();
-        Check.feed(x, text);
-        Check.due("house of '" + text + "'", kind, () -> x.house(text.length()));
-        Check.due("fault of '" + text + "'", place, x::fault);
-        Check.due("refused texts of '" + text + "'", kind == 0 ? 0 : 1, () -> x.count(5));
-        Check.due("tape behind '" + text + "'", 0, () -> x.count(4));
-    }
-
-    /** As fault, at the place of a mark in the text that isn't part of it. */
-    private static void faultAt(String marked, int kind) {
-        int place = marked.indexOf('^');
-        fault(marked.substring(0, place) + marked.substring(place + 1), kind, place);
-    }
-
     private static String times(String line, int n) {
         return line.repeat(n);
     }
@@ -85,116 +69,116 @@ public final class TextTest {
     }
 
     private static void wordsAndNumbers() {
-        fault("", 0, -1);
-        fault("\n \n", 0, -1);
-        fault("person8drawn300;work6 2;can0 0 5;", 0, -1);
-        fault("person\n24 ;\nwork 0023 0001 ; can 0 0 0009;", 0, -1);
-        faultAt("^persons 8;", 1);
-        faultAt("^perso 8;", 1);
-        faultAt("^berson 8;", 1);
-        faultAt("^persoa 8;", 1);
-        faultAt("^personz 8;", 1);
-        faultAt("^zperson 8;", 1);
-        faultAt("person^{8;", 1);
-        faultAt("person^`8;", 1);
-        faultAt("person ^/8;", 1);
-        faultAt("person ^:8;", 1);
-        faultAt("person 8^:", 1);
-        faultAt("^Person 8;", 1);
-        faultAt("^drawn 8;", 1);
-        faultAt("^;", 1);
-        faultAt("^5;", 1);
-        faultAt("^12345;", 1);
-        faultAt("person 8;^;", 1);
-        faultAt("person^\t8;", 1);
-        faultAt("person ^-8;", 1);
-        faultAt("person^", 1);
-        faultAt("person  ^", 1);
-        faultAt("person 8^", 1);
-        faultAt("person 8 \n^", 1);
-        faultAt("person 8 ^8;", 1);
-        faultAt("person 8 ^12345;", 1);
-        faultAt("person 8 drawn^;", 1);
-        faultAt("person 8 drawn ^drawn;", 1);
-        faultAt("person 8 drawn 3 ^4;", 1);
-        faultAt("person 8 drawn 3^", 1);
-        faultAt("person 8 ^draw 3;", 1);
-        faultAt("work 8^;", 1);
-        faultAt("work 8 2 ^drawn 3;", 1);
-        faultAt("forget^;", 1);
-        faultAt("forget 3^", 1);
-        faultAt("person 8;work 1 1;can 0 0^;", 1);
-        faultAt("person 8;work 1 1;can 0 0 5 ^5;", 1);
-        faultAt("person 8;work 1 1;learn 0 0 5^;", 1);
-        faultAt("person 8;work 1 1;learn 0 ^x 5 5;", 1);
-        faultAt("person 8;^\u00e9", 1);
+        Check.fault("", 0, -1);
+        Check.fault("\n \n", 0, -1);
+        Check.fault("person8drawn300;work6 2;can0 0 5;", 0, -1);
+        Check.fault("person\n24 ;\nwork 0023 0001 ; can 0 0 0009;", 0, -1);
+        Check.faultAt("^persons 8;", 1);
+        Check.faultAt("^perso 8;", 1);
+        Check.faultAt("^berson 8;", 1);
+        Check.faultAt("^persoa 8;", 1);
+        Check.faultAt("^personz 8;", 1);
+        Check.faultAt("^zperson 8;", 1);
+        Check.faultAt("person^{8;", 1);
+        Check.faultAt("person^`8;", 1);
+        Check.faultAt("person ^/8;", 1);
+        Check.faultAt("person ^:8;", 1);
+        Check.faultAt("person 8^:", 1);
+        Check.faultAt("^Person 8;", 1);
+        Check.faultAt("^drawn 8;", 1);
+        Check.faultAt("^;", 1);
+        Check.faultAt("^5;", 1);
+        Check.faultAt("^12345;", 1);
+        Check.faultAt("person 8;^;", 1);
+        Check.faultAt("person^\t8;", 1);
+        Check.faultAt("person ^-8;", 1);
+        Check.faultAt("person^", 1);
+        Check.faultAt("person  ^", 1);
+        Check.faultAt("person 8^", 1);
+        Check.faultAt("person 8 \n^", 1);
+        Check.faultAt("person 8 ^8;", 1);
+        Check.faultAt("person 8 ^12345;", 1);
+        Check.faultAt("person 8 drawn^;", 1);
+        Check.faultAt("person 8 drawn ^drawn;", 1);
+        Check.faultAt("person 8 drawn 3 ^4;", 1);
+        Check.faultAt("person 8 drawn 3^", 1);
+        Check.faultAt("person 8 ^draw 3;", 1);
+        Check.faultAt("work 8^;", 1);
+        Check.faultAt("work 8 2 ^drawn 3;", 1);
+        Check.faultAt("forget^;", 1);
+        Check.faultAt("forget 3^", 1);
+        Check.faultAt("person 8;work 1 1;can 0 0^;", 1);
+        Check.faultAt("person 8;work 1 1;can 0 0 5 ^5;", 1);
+        Check.faultAt("person 8;work 1 1;learn 0 0 5^;", 1);
+        Check.faultAt("person 8;work 1 1;learn 0 ^x 5 5;", 1);
+        Check.faultAt("person 8;^\u00e9", 1);
         // the first along the text counts, whatever comes behind it
-        faultAt("person ^25;work 1 9;X", 2);
+        Check.faultAt("person ^25;work 1 9;X", 2);
     }
 
     private static void tooMuch() {
-        faultAt("person ^25;", 2);
-        faultAt("person ^00005;", 2);
-        fault("person 24;", 0, -1);
-        fault("person 0;", 0, -1);
-        faultAt("person 5 drawn ^1001;", 2);
-        fault("person 5 drawn 1000;", 0, -1);
-        faultAt("person 5 drawn ^10000;", 2);
-        faultAt("work ^24 1;", 2);
-        fault("work 23 1;", 0, -1);
-        faultAt("work 23 ^2;", 2);
-        faultAt("work 5 ^0;", 2);
-        faultAt("work 5 ^9;", 2);
-        fault("work 16 8;", 0, -1);
-        faultAt("work 17 ^8;", 2);
-        faultAt("person 5;work 5 1;can 0 0 ^10;", 2);
-        faultAt("person 5;work 5 1;can 0 0 ^0;", 2);
-        faultAt("person 5;work 5 1;can ^00000 0 1;", 2);
-        faultAt("person 5;work 5 1;can 0 ^00000 1;", 2);
-        faultAt("person 5;work 5 1;learn 0 0 ^0 5;", 2);
-        faultAt("person 5;work 5 1;learn 0 0 ^10 5;", 2);
-        faultAt("person 5;work 5 1;learn 0 0 9 ^0;", 2);
-        faultAt("person 5;work 5 1;learn 0 0 9 ^100;", 2);
-        fault("person 5;work 5 1;learn 0 0 9 99;", 0, -1);
-        faultAt("forget ^0;", 2);
-        faultAt("forget ^51;", 2);
-        fault("forget 50;", 0, -1);
-        fault(times("person 1;", 6), 0, -1);
-        faultAt(times("person 1;", 6) + "^person 99;", 2);
-        faultAt(times("person 1;", 6) + "^person;", 2);
-        fault(times("work 1 1;", 8), 0, -1);
-        faultAt(times("work 1 1;", 8) + "^work;", 2);
+        Check.faultAt("person ^25;", 2);
+        Check.faultAt("person ^00005;", 2);
+        Check.fault("person 24;", 0, -1);
+        Check.fault("person 0;", 0, -1);
+        Check.faultAt("person 5 drawn ^1001;", 2);
+        Check.fault("person 5 drawn 1000;", 0, -1);
+        Check.faultAt("person 5 drawn ^10000;", 2);
+        Check.faultAt("work ^24 1;", 2);
+        Check.fault("work 23 1;", 0, -1);
+        Check.faultAt("work 23 ^2;", 2);
+        Check.faultAt("work 5 ^0;", 2);
+        Check.faultAt("work 5 ^9;", 2);
+        Check.fault("work 16 8;", 0, -1);
+        Check.faultAt("work 17 ^8;", 2);
+        Check.faultAt("person 5;work 5 1;can 0 0 ^10;", 2);
+        Check.faultAt("person 5;work 5 1;can 0 0 ^0;", 2);
+        Check.faultAt("person 5;work 5 1;can ^00000 0 1;", 2);
+        Check.faultAt("person 5;work 5 1;can 0 ^00000 1;", 2);
+        Check.faultAt("person 5;work 5 1;learn 0 0 ^0 5;", 2);
+        Check.faultAt("person 5;work 5 1;learn 0 0 ^10 5;", 2);
+        Check.faultAt("person 5;work 5 1;learn 0 0 9 ^0;", 2);
+        Check.faultAt("person 5;work 5 1;learn 0 0 9 ^100;", 2);
+        Check.fault("person 5;work 5 1;learn 0 0 9 99;", 0, -1);
+        Check.faultAt("forget ^0;", 2);
+        Check.faultAt("forget ^51;", 2);
+        Check.fault("forget 50;", 0, -1);
+        Check.fault(times("person 1;", 6), 0, -1);
+        Check.faultAt(times("person 1;", 6) + "^person 99;", 2);
+        Check.faultAt(times("person 1;", 6) + "^person;", 2);
+        Check.fault(times("work 1 1;", 8), 0, -1);
+        Check.faultAt(times("work 1 1;", 8) + "^work;", 2);
         StringBuilder learns = new StringBuilder("person 1;").append(times("work 1 1;", 8)).append("person 2;");
         for (int w = 0; w < 8; w++) {
             learns.append("learn 0 ").append(w).append(" 1 1;");
         }
-        fault(learns.toString(), 0, -1);
-        faultAt(learns + "^learn 1 0 1 1;", 2);
-        faultAt(learns + "^learn;", 2);
-        fault(learns + "can 1 0 1;", 0, -1);
+        Check.fault(learns.toString(), 0, -1);
+        Check.faultAt(learns + "^learn 1 0 1 1;", 2);
+        Check.faultAt(learns + "^learn;", 2);
+        Check.fault(learns + "can 1 0 1;", 0, -1);
     }
 
     private static void untoldAndTwice() {
-        faultAt("can ^0 0 5;", 3);
-        faultAt("person 5;can 0 ^0 5;", 3);
-        faultAt("person 5;work 1 1;can ^1 0 5;", 3);
-        faultAt("person 5;work 1 1;can ^1 9 99;", 3);
-        faultAt("person 5;work 1 1;learn ^1 0 5 5;", 3);
-        faultAt("person 5;work 1 1;learn 0 ^1 99 99;", 3);
-        faultAt("person 5;work 1 1;learn 0 0 ^99 999;", 2);
-        faultAt("person 5;work 1 1;can ^9999 0 5;", 3);
-        faultAt("person 5;work 1 1;learn 0 ^1 5 5;", 3);
-        faultAt("person 5;work 1 1;learn ^6 1 5 5;", 3);
-        faultAt("work 1 1;can ^0 0 5;person 5;", 3);
-        faultAt("person 5;work 1 1;can 0 0 1;can 0 ^0 2;", 4);
-        faultAt("person 5;work 1 1;can 0 0 1;learn 0 ^0 2 2;", 4);
-        faultAt("person 5;work 1 1;learn 0 0 1 1;learn 0 ^0 2 2;", 4);
-        faultAt("person 5;work 1 1;learn 0 0 1 1;can 0 ^0 2;", 4);
-        fault("person 5;person 5;work 1 1;work 1 1;can 0 0 1;can 0 1 1;can 1 0 1;learn 1 1 1 1;", 0, -1);
-        faultAt("forget 5;^forget 6;", 5);
-        faultAt("forget 5;person 1;^forget;", 5);
-        fault("person 5 drawn 600;person 5 drawn 400;", 0, -1);
-        faultAt("person 5 drawn 600;person 5 drawn 400;person 5;person 5 drawn ^1;", 5);
+        Check.faultAt("can ^0 0 5;", 3);
+        Check.faultAt("person 5;can 0 ^0 5;", 3);
+        Check.faultAt("person 5;work 1 1;can ^1 0 5;", 3);
+        Check.faultAt("person 5;work 1 1;can ^1 9 99;", 3);
+        Check.faultAt("person 5;work 1 1;learn ^1 0 5 5;", 3);
+        Check.faultAt("person 5;work 1 1;learn 0 ^1 99 99;", 3);
+        Check.faultAt("person 5;work 1 1;learn 0 0 ^99 999;", 2);
+        Check.faultAt("person 5;work 1 1;can ^9999 0 5;", 3);
+        Check.faultAt("person 5;work 1 1;learn 0 ^1 5 5;", 3);
+        Check.faultAt("person 5;work 1 1;learn ^6 1 5 5;", 3);
+        Check.faultAt("work 1 1;can ^0 0 5;person 5;", 3);
+        Check.faultAt("person 5;work 1 1;can 0 0 1;can 0 ^0 2;", 4);
+        Check.faultAt("person 5;work 1 1;can 0 0 1;learn 0 ^0 2 2;", 4);
+        Check.faultAt("person 5;work 1 1;learn 0 0 1 1;learn 0 ^0 2 2;", 4);
+        Check.faultAt("person 5;work 1 1;learn 0 0 1 1;can 0 ^0 2;", 4);
+        Check.fault("person 5;person 5;work 1 1;work 1 1;can 0 0 1;can 0 1 1;can 1 0 1;learn 1 1 1 1;", 0, -1);
+        Check.faultAt("forget 5;^forget 6;", 5);
+        Check.faultAt("forget 5;person 1;^forget;", 5);
+        Check.fault("person 5 drawn 600;person 5 drawn 400;", 0, -1);
+        Check.faultAt("person 5 drawn 600;person 5 drawn 400;person 5;person 5 drawn ^1;", 5);
     }
 
     private static void whatWasTold() {

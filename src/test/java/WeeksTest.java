@@ -195,10 +195,6 @@ public final class WeeksTest {
         return all.toString();
     }
 
-    private static void same(String name, String got, String want) {
-        Check.due(name + ": '" + got + "', due is '" + want + "'", 1, () -> Check.bit(got.equals(want)));
-    }
-
     private static void images() {
         FullHouse x = Check.houseOf("person 4 drawn 300;person 4 drawn 300;person 4 drawn 300;work 1 2;work 2 2;work 5 2;"
                 + "can 0 0 1;can 0 1 1;can 0 2 1;can 1 0 1;can 1 1 1;can 2 2 1;can 2 1 1;forget 4;");
@@ -209,19 +205,19 @@ public final class WeeksTest {
         x.on(30);
         String all = allOf(x, 3);
         Check.due("restore", 1, () -> Check.bit(x.restore()));
-        same("as the image", allOf(x, 3), two);
+        Check.same("as the image", allOf(x, 3), two);
         x.on(30);
-        same("the same weeks behind it", allOf(x, 3), all);
+        Check.same("the same weeks behind it", allOf(x, 3), all);
         x.begin(7);
         x.on(9);
         Check.due("behind a begin the image is there", 1, () -> Check.bit(x.restore()));
-        same("as the image again", allOf(x, 3), two);
+        Check.same("as the image again", allOf(x, 3), two);
         x.on(30);
-        same("the same weeks again", allOf(x, 3), all);
+        Check.same("the same weeks again", allOf(x, 3), all);
         Check.due("another image", 1, () -> Check.bit(x.image()));
         x.begin(7);
         x.restore();
-        same("in place of the first one", allOf(x, 3), all);
+        Check.same("in place of the first one", allOf(x, 3), all);
         x.begin(1);
         Check.due("an image of no weeks", 1, () -> Check.bit(x.image()));
         x.on(3);
