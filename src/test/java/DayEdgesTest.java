@@ -16,24 +16,6 @@ public final class DayEdgesTest {
         }
     }
 
-    /** 'can' of one person at works 0 to n - 1. */
-    private static String canAll(int person, int works, int skill) {
-        StringBuilder text = new StringBuilder();
-        for (int w = 0; w < works; w++) {
-            text.append("can ").append(person).append(' ').append(w).append(' ').append(skill).append(';');
-        }
-        return text.toString();
-    }
-
-    /** Works of one hour each, one behind the other. */
-    private static String worksInTurn(int works) {
-        StringBuilder text = new StringBuilder();
-        for (int w = 0; w < works; w++) {
-            text.append("work ").append(w).append(" 1;");
-        }
-        return text.toString();
-    }
-
     private static void lefts() {
         Check.promise(10, "IllegalArgumentException: bits of PEOPLE that there aren't (as everywhere).");
         for (int people = 0; people <= 6; people++) {
@@ -87,7 +69,7 @@ public final class DayEdgesTest {
             for (int his = sum - 1; his <= Math.min(24, sum + 1); his++) {
                 boolean enough = his >= sum;
                 FullHouse x = Check.houseOf("person " + his + ";work 0 " + longs[0] + ";work 8 " + longs[1] + ";work 16 "
-                        + longs[2] + ";" + canAll(0, 3, 1));
+                        + longs[2] + ";" + Houses.canAll(0, 3, 1));
                 Check.due(his + " hours of " + sum + ": day", enough ? 3 : -1, () -> x.day(1));
                 Check.due(his + " hours of " + sum + ": most", enough ? 3 : 2, () -> x.most(1));
                 Check.due(his + " hours of " + sum + ": bars", enough ? -1 : 7, () -> x.bars(1));
@@ -118,7 +100,8 @@ public final class DayEdgesTest {
         FullHouse best = Check.houseOf("person 1;person 1;work 1 1;work 2 1;can 0 0 9;can 0 1 8;can 1 0 7;can 1 1 1;");
         Check.due("not the greatest first", 15, () -> best.day(3));
         row(best, 1, 0);
-        FullHouse full = Check.houseOf("person 24;".repeat(6) + worksInTurn(8) + canAll(5, 8, 9) + canAll(4, 8, 8));
+        FullHouse full = Check.houseOf("person 24;".repeat(6) + Houses.worksInTurn(8) + Houses.canAll(5, 8, 9)
+                + Houses.canAll(4, 8, 8));
         Check.due("eight by 9", 72, () -> full.day(63));
         row(full, 5, 5, 5, 5, 5, 5, 5, 5);
         Check.due("eight by 8", 64, () -> full.day(16));
@@ -127,14 +110,16 @@ public final class DayEdgesTest {
         FullHouse like = Check.houseOf("person 1;person 1;work 1 1;work 2 1;can 0 0 3;can 0 1 5;can 1 0 5;can 1 1 7;");
         Check.due("like ones", 10, () -> like.day(3));
         row(like, 0, 1);
-        FullHouse last = Check.houseOf("person 24;".repeat(6) + worksInTurn(8) + canAll(3, 7, 2) + canAll(5, 8, 2)
+        FullHouse last = Check.houseOf("person 24;".repeat(6) + Houses.worksInTurn(8) + Houses.canAll(3, 7, 2)
+                + Houses.canAll(5, 8, 2)
                 + "can 4 7 2;");
         Check.due("the last work decides", 16, () -> last.day(63));
         row(last, 3, 3, 3, 3, 3, 3, 3, 4);
         Check.due("and without 4", 16, () -> last.day(47));
         row(last, 3, 3, 3, 3, 3, 3, 3, 5);
         // a first work by 0 leaves the second to the last one, yet the row comes first
-        FullHouse far = Check.houseOf("person 1;person 1;person 1;work 1 1;work 2 1;can 0 0 2;can 0 1 2;can 1 0 2;can 2 1 2;");
+        FullHouse far = Check.houseOf("person 1;person 1;person 1;work 1 1;work 2 1;can 0 0 2;can 0 1 2;can 1 0 2;can "
+                + "2 1 2;");
         Check.due("the first work goes ahead", 4, () -> far.day(7));
         row(far, 0, 2);
     }
@@ -181,14 +166,16 @@ public final class DayEdgesTest {
     private static void mostAndBars() {
         Check.promise(12, "MOST.");
         Check.terms("MOST: of ROWS in which some WORKS may be nobody's the greatest number of WORKS that are somebody's.");
-        FullHouse x = Check.houseOf("person 8;person 7;person 0;" + worksInTurn(8) + canAll(0, 8, 1) + canAll(1, 8, 1)
-                + canAll(2, 8, 9));
+        FullHouse x = Check.houseOf("person 8;person 7;person 0;" + Houses.worksInTurn(8) + Houses.canAll(0, 8, 1)
+                + Houses.canAll(1, 8, 1)
+                + Houses.canAll(2, 8, 9));
         int[] mosts = {0, 8, 7, 8, 0, 8, 7, 8};
         for (int left = 0; left < 8; left++) {
             int of = left;
             Check.due("most " + left, mosts[left], () -> x.most(of));
         }
-        FullHouse many = Check.houseOf("person 8;work 0 8;work 8 1;work 9 1;work 10 1;can 0 0 9;can 0 1 1;can 0 2 1;can 0 3 1;");
+        FullHouse many = Check.houseOf("person 8;work 0 8;work 8 1;work 9 1;work 10 1;can 0 0 9;can 0 1 1;can 0 2 1;"
+                + "can 0 3 1;");
         Check.due("the greatest number, not skills", 3, () -> many.most(1));
 
         Check.promise(13, "BARS as bits; NONE: they CAN.");
@@ -199,18 +186,19 @@ public final class DayEdgesTest {
         Check.due("all eight together", 255, () -> x.bars(2));
         Check.due("nobody left", 1, () -> x.bars(0));
         Check.due("no hours", 1, () -> x.bars(4));
-        FullHouse last = Check.houseOf("person 8;" + worksInTurn(8) + canAll(0, 7, 1));
+        FullHouse last = Check.houseOf("person 8;" + Houses.worksInTurn(8) + Houses.canAll(0, 7, 1));
         Check.due("the last alone", 128, () -> last.bars(1));
         FullHouse single = Check.houseOf("person 3;work 0 2;work 1 2;work 9 1;can 0 0 1;can 0 1 1;");
         Check.due("one ahead of two that are less", 4, () -> single.bars(1));
         Check.terms("of as small the least as bits");
-        FullHouse pairs = Check.houseOf("person 24;work 0 1;work 9 2;work 10 2;work 11 2;" + canAll(0, 4, 1));
+        FullHouse pairs = Check.houseOf("person 24;work 0 1;work 9 2;work 10 2;work 11 2;" + Houses.canAll(0, 4, 1));
         Check.due("of two pairs the lesser", 6, () -> pairs.bars(1));
     }
 
     private static void toldRows() {
         Check.promise(14, "A WORK of the TOLD ROW (at first all are nobody's) is a PERSON's (NONE: nobody's): true.");
-        FullHouse x = Check.houseOf("person 9;person 9;" + worksInTurn(2) + canAll(0, 2, 1) + canAll(1, 2, 1));
+        FullHouse x = Check.houseOf("person 9;person 9;" + Houses.worksInTurn(2) + Houses.canAll(0, 2, 1)
+                + Houses.canAll(1, 2, 1));
         Check.due("at first", 1, () -> x.judge(3));
         tellAll(x, 0, 1);
         Check.due("all told", -1, () -> x.judge(3));
@@ -243,8 +231,8 @@ public final class DayEdgesTest {
 
     private static void judged() {
         Check.promise(15, "10 by the WORK and the number (1 to 5); NONE: all is right.");
-        FullHouse x = Check.houseOf("person 24;person 7;person 8;person 24;" + worksInTurn(8)
-                + canAll(0, 8, 1) + canAll(1, 8, 1) + canAll(2, 8, 1));
+        FullHouse x = Check.houseOf("person 24;person 7;person 8;person 24;" + Houses.worksInTurn(8)
+                + Houses.canAll(0, 8, 1) + Houses.canAll(1, 8, 1) + Houses.canAll(2, 8, 1));
         Check.due("the first work", 1, () -> x.judge(15));
         tellAll(x, 0, 0, 0, 0, 0, 0, 0, -1);
         Check.due("the last is nobody's", 71, () -> x.judge(15));
@@ -258,7 +246,8 @@ public final class DayEdgesTest {
         tellAll(x, 2, 2, 2, 2, 2, 2, 2, 2);
         Check.due("just his eight", -1, () -> x.judge(15));
         Check.due("no works", -1, () -> new FullHouse().judge(0));
-        FullHouse clash = Check.houseOf("person 24;work 23 1;" + worksInTurn(6) + "work 23 1;" + canAll(0, 8, 1));
+        FullHouse clash = Check.houseOf("person 24;work 23 1;" + Houses.worksInTurn(6) + "work 23 1;"
+                + Houses.canAll(0, 8, 1));
         tellAll(clash, 0, 0, 0, 0, 0, 0, 0, 0);
         Check.due("the last at the first one's hour", 74, () -> clash.judge(1));
 
@@ -278,7 +267,8 @@ public final class DayEdgesTest {
         Check.due("5 of a first work, ahead of a second one's 1", 5, () -> long3.judge(1));
         long3.tell(1, 0);
         Check.due("a greater work at its hours isn't the first one's", 5, () -> long3.judge(1));
-        FullHouse other = Check.houseOf("person 1;person 1;work 5 1;work 5 1;" + canAll(0, 2, 1) + canAll(1, 2, 1));
+        FullHouse other = Check.houseOf("person 1;person 1;work 5 1;work 5 1;" + Houses.canAll(0, 2, 1)
+                + Houses.canAll(1, 2, 1));
         tellAll(other, 0, 1);
         Check.due("another's work at its hour", -1, () -> other.judge(3));
     }
@@ -304,7 +294,8 @@ public final class DayEdgesTest {
             Check.due("any " + far, Check.NO_SUCH, () -> x.any(far));
         }
 
-        Check.terms("It HOLDS for any one, if LEFT CAN, whoever one is away; for any two, if so of any two (of a HOUSE of one: of him).");
+        Check.terms("It HOLDS for any one, if LEFT CAN, whoever one is away; for any two, if so of any two (of a "
+                + "HOUSE of one: of him).");
         // nobody: there is none to be away
         any("", 0, 0, 1, 1);
         any("work 1 1;", 0, 0, 1, 1);
@@ -352,14 +343,14 @@ public final class DayEdgesTest {
         Check.due("above, two", Check.NO_SUCH, () -> x.learn(true, 3));
 
         Check.terms("LEARN: of sets of TEACHINGS that of least PAINS together by which it HOLDS (for any one, any two)");
-        String eight = "person 24;person 24;" + worksInTurn(8) + canAll(0, 8, 1);
+        String eight = "person 24;person 24;" + Houses.worksInTurn(8) + Houses.canAll(0, 8, 1);
         StringBuilder all = new StringBuilder(eight);
         for (int w = 0; w < 8; w++) {
             all.append("learn 1 ").append(w).append(" 1 99;");
         }
         learn(all.toString(), false, 792, 255, 792);
         learn(all.toString(), true, -1, -1, -1);
-        learn(eight + canAll(1, 8, 1), false, 0, 0, 0);
+        learn(eight + Houses.canAll(1, 8, 1), false, 0, 0, 0);
         learn("", false, 0, 0, 0);
         learn("", true, 0, 0, 0);
         learn("person 5;", false, 0, 0, 0);
@@ -369,6 +360,19 @@ public final class DayEdgesTest {
         learn(three + "learn 1 0 1 99;learn 2 0 1 98;", true, 197, 3, 197);
         learn(three + "can 1 0 1;learn 2 0 1 98;", false, 0, 0, 0);
         learn(three + "can 1 0 1;learn 2 0 1 98;", true, 98, 1, 98);
+        // one has no hours: what he might learn is of no use, whichever is told first
+        String idle = "person 5;person 5;person 0;work 1 1;can 0 0 1;";
+        learn(idle + "learn 2 0 1 1;learn 1 0 1 9;", false, 9, 2, 1);
+        learn(idle + "learn 1 0 1 9;learn 2 0 1 1;", false, 9, 1, 1);
+        // of eight the first alone, or the last alone, is of use
+        StringBuilder seven = new StringBuilder();
+        for (int w = 1; w < 8; w++) {
+            seven.append("learn 2 ").append(w).append(" 1 1;");
+        }
+        String house = "person 24;person 24;person 0;" + Houses.worksInTurn(8) + Houses.canAll(0, 8, 1)
+                + Houses.canAll(1, 8, 1).substring(10);
+        learn(house + "learn 1 0 1 50;" + seven, false, 50, 1, 50);
+        learn(house + seven + "learn 1 0 1 50;", false, 50, 128, 50);
         // 1 has an hour alone, but that is enough
         String dear = "person 5;person 1;person 5;work 1 1;work 2 1;can 0 0 1;can 0 1 1;can 2 0 1;";
         learn(dear + "learn 1 1 1 9;learn 2 1 1 9;", false, 9, 1, 9);
@@ -388,7 +392,8 @@ public final class DayEdgesTest {
         learn("person 5;work 1 1;learn 0 0 1 1;", true, -1, -1, -1);
 
         Check.terms("BOUND: for each WORK that fewer than two (than three, for any two) CAN do (whatever hours), "
-                + "PAINS of as many TEACHINGS of it as are missing, the least ones; all together; none, if there are too few.");
+                + "PAINS of as many TEACHINGS of it as are missing, the least ones; all together; none, if there are "
+                        + "too few.");
         bound("", 11, 36);
         bound("can 0 0 1;", 5, 21);
         bound("can 0 0 1;can 1 0 1;", 0, 10);
@@ -397,7 +402,8 @@ public final class DayEdgesTest {
                 + "learn 2 0 1 20;learn 1 0 1 10;learn 2 1 1 5;learn 0 2 1 1;learn 1 2 1 2;learn 2 2 1 4;");
         Check.due("all together, for any one", 13, () -> sum.learn(false, 2));
         Check.due("all together, for any two", 42, () -> sum.learn(true, 2));
-        FullHouse few = Check.houseOf("person 5;person 5;person 5;work 1 1;work 2 1;can 0 0 1;can 1 0 1;can 0 1 1;learn 1 1 1 3;");
+        FullHouse few = Check.houseOf("person 5;person 5;person 5;work 1 1;work 2 1;can 0 0 1;can 1 0 1;can 0 1 1;"
+                + "learn 1 1 1 3;");
         Check.due("just enough", 3, () -> few.learn(false, 2));
         Check.due("too few", -1, () -> few.learn(true, 2));
     }
@@ -420,23 +426,28 @@ public final class DayEdgesTest {
         Check.due("he can't do two at one hour", -1,
                 () -> Check.houseOf("person 24;work 1 2;work 2 2;can 0 0 1;can 0 1 1;").more());
         Check.due("more than any one who is left can help", -1,
-                () -> Check.houseOf("person 24;person 0;work 1 1;work 1 1;work 1 1;" + canAll(0, 3, 1)).more());
-        Check.terms("ONE MORE: the smallest set of WORKS such that with one more PERSON, who has 24 HOURS and a SKILL of 1 at these, "
+                () -> Check.houseOf("person 24;person 0;work 1 1;work 1 1;work 1 1;" + Houses.canAll(0, 3, 1)).more());
+        Check.terms("ONE MORE: the smallest set of WORKS such that with one more PERSON, who has 24 HOURS and a SKILL "
+                + "of 1 at these, "
                 + "it HOLDS for any one (of those who were there; he is never away)");
         Check.due("nobody", 0, () -> new FullHouse().more());
         Check.due("nobody, but works", 0, () -> Check.houseOf("work 1 1;").more());
         Check.due("no works", 0, () -> Check.houseOf("person 5;").more());
         Check.due("it holds", 0, () -> Check.houseOf("person 5;person 5;work 1 1;can 0 0 1;can 1 0 1;").more());
-        Check.due("all eight", 255, () -> Check.houseOf("person 24;" + worksInTurn(8) + canAll(0, 8, 1)).more());
+        Check.due("all eight", 255, () -> Check.houseOf("person 24;" + Houses.worksInTurn(8)
+                + Houses.canAll(0, 8, 1)).more());
         Check.due("just 24 hours", 7, () -> Check.houseOf("person 0;work 0 8;work 8 8;work 16 8;").more());
         Check.due("nobody can, the others have hours", 128,
-                () -> Check.houseOf("person 24;person 24;" + worksInTurn(8) + canAll(0, 7, 1) + canAll(1, 7, 1)).more());
+                () -> Check.houseOf("person 24;person 24;" + Houses.worksInTurn(8) + Houses.canAll(0, 7, 1)
+                        + Houses.canAll(1, 7, 1)).more());
         // fewer works, though they are greater as bits
         Check.due("one ahead of two that are less", 4,
-                () -> Check.houseOf("person 2;person 2;work 1 1;work 2 1;work 3 2;can 0 0 1;can 0 1 1;can 1 0 1;can 1 1 1;can 0 2 1;").more());
+                () -> Check.houseOf("person 2;person 2;work 1 1;work 2 1;work 3 2;" + Houses.canAll(0, 3, 1)
+                        + Houses.canAll(1, 3, 1)).more());
         Check.terms("of as small the least as bits");
         Check.due("either would do", 1,
-                () -> Check.houseOf("person 1;person 1;work 1 1;work 1 1;" + canAll(0, 2, 1) + canAll(1, 2, 1)).more());
+                () -> Check.houseOf("person 1;person 1;work 1 1;work 1 1;" + Houses.canAll(0, 2, 1)
+                        + Houses.canAll(1, 2, 1)).more());
     }
 
     private static void worth(FullHouse x, int person, int upper, int lower) {
@@ -457,20 +468,22 @@ public final class DayEdgesTest {
             Check.due("worth " + beside + " twice", Check.NO_SUCH, () -> x.worth(beside, beside));
         }
         Check.due("nobody", Check.NO_SUCH, () -> new FullHouse().worth(0, 0));
-        Check.terms("WORTH of a PERSON: over all orders in which PEOPLE come, by how much MOST grows as he comes to those ahead of him, "
+        Check.terms("WORTH of a PERSON: over all orders in which PEOPLE come, by how much MOST grows as he comes to "
+                + "those ahead of him, "
                 + "together, by how many orders there are: a fraction in lowest terms.");
         worth(x, 0, 1, 1);
         worth(x, 1, 0, 1);
-        worth(Check.houseOf("person 24;" + worksInTurn(8) + canAll(0, 8, 1)), 0, 8, 1);
+        worth(Check.houseOf("person 24;" + Houses.worksInTurn(8) + Houses.canAll(0, 8, 1)), 0, 8, 1);
         worth(Check.houseOf("person 24;"), 0, 0, 1);
-        StringBuilder six = new StringBuilder("person 24;".repeat(6) + worksInTurn(8));
+        StringBuilder six = new StringBuilder("person 24;".repeat(6) + Houses.worksInTurn(8));
         for (int p = 0; p < 6; p++) {
             six.append("can ").append(p).append(" 7 1;");
         }
         worth(Check.houseOf(six.toString()), 5, 1, 6);
         // each work is worth 1, shared by those who can do it
-        FullHouse shares = Check.houseOf("person 24;".repeat(6) + worksInTurn(6) + canAll(0, 6, 1) + canAll(1, 5, 1)
-                + canAll(2, 4, 1) + canAll(3, 3, 1) + canAll(4, 2, 1) + canAll(5, 1, 1));
+        FullHouse shares = Check.houseOf("person 24;".repeat(6) + Houses.worksInTurn(6) + Houses.canAll(0, 6, 1)
+                + Houses.canAll(1, 5, 1)
+                + Houses.canAll(2, 4, 1) + Houses.canAll(3, 3, 1) + Houses.canAll(4, 2, 1) + Houses.canAll(5, 1, 1));
         worth(shares, 5, 1, 6);
         worth(shares, 4, 11, 30);
         worth(shares, 3, 37, 60);

@@ -64,8 +64,9 @@ public final class RandomRunsTest {
     }
 
     private String text() {
-        int people = below(6) == 0 ? below(7) : 1 + below(4);
-        int works = below(6) == 0 ? below(9) : 1 + below(5);
+        boolean full = below(100) == 0;
+        int people = full ? 6 : below(6) == 0 ? below(7) : 1 + below(4);
+        int works = full ? 8 : below(6) == 0 ? below(9) : 1 + below(5);
         StringBuilder text = new StringBuilder();
         int chances = below(12) == 0 ? 1400 : 1000;
         for (int p = 0; p < people; p++) {

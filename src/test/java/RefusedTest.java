@@ -191,7 +191,8 @@ public final class RefusedTest {
             refused(RefusedTest::fresh, "day " + left + ", none kept", "-1", x -> x.day(of));
         }
         Check.promise(14, "False (STATUS 1): no such WORK, PERSON.");
-        for (int[] pair : new int[][] {{3, 0}, {-1, 0}, {0, 2}, {0, -2}, {3, -1}, {-1, -1}, {Integer.MAX_VALUE, Integer.MIN_VALUE}}) {
+        for (int[] pair : new int[][] {{3, 0}, {-1, 0}, {0, 2}, {0, -2}, {3, -1}, {-1, -1}, {Integer.MAX_VALUE,
+                Integer.MIN_VALUE}}) {
             refused(RefusedTest::lived, "tell " + pair[0] + " " + pair[1], "0",
                     x -> Check.bit(x.tell(pair[0], pair[1])), "count 6", "3");
         }
@@ -274,7 +275,8 @@ public final class RefusedTest {
             Check.due("often told", Check.ILLEGAL, () -> x.often(0, 1001));
             Check.due("seldom days", Check.ILLEGAL, () -> x.seldom(0, 5001));
         });
-        Check.promise(17, "LEARN for any two (two true), any one: PAINS (what 0), the set as bits (1), BOUND (2); NONE: none.");
+        Check.promise(17, "LEARN for any two (two true), any one: PAINS (what 0), the set as bits (1), BOUND (2); "
+                + "NONE: none.");
         leaves(RefusedTest::lived, "questions that have one", x -> {
             for (int n = 0; n < 3; n++) {
                 x.learn(false, n);

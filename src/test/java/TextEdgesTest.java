@@ -217,6 +217,9 @@ public final class TextEdgesTest {
             Check.faultAt("^" + word.substring(1) + " 1;", 1);
             Check.faultAt("^" + word.substring(0, word.length() - 1) + " 1;", 1);
             Check.faultAt("^" + word.toUpperCase() + " 1;", 1);
+            for (int i = 0; i < word.length(); i++) {
+                Check.faultAt("^" + word.substring(0, i) + "q" + word.substring(i + 1) + " 1;", 1);
+            }
             Check.faultAt(word + "^`1;", 1);
             Check.faultAt(word + "^{1;", 1);
             Check.faultAt(word + "^A1;", 1);
@@ -224,6 +227,8 @@ public final class TextEdgesTest {
         Check.faultAt("person 8 ^drawna 1;", 1);
         Check.faultAt("person 8 ^draw 1;", 1);
         Check.faultAt("person 8 ^rawn 1;", 1);
+        Check.faultAt("person 8 ^brawn 1;", 1);
+        Check.faultAt("person 8 ^drawm 1;", 1);
 
         Check.terms("NUMBERS (1 to 4 digits)");
         for (String number : new String[] {"8", "08", "008", "0008"}) {
@@ -259,7 +264,8 @@ public final class TextEdgesTest {
         Check.fine("forget 3;work 1 1;person 5;can 0 0 1;work 2 2;learn 0 1 1 1;person 6;can 1 1 1;");
 
         Check.terms("1 a TOKEN that can't stand there, or is none (the text's length where it ends too soon)");
-        for (String line : new String[] {"person 8 drawn 3 ;", "work 2 3 ;", "can 0 0 5 ;", "learn 0 0 5 7 ;", "forget 9 ;"}) {
+        for (String line : new String[] {"person 8 drawn 3 ;", "work 2 3 ;", "can 0 0 5 ;", "learn 0 0 5 7 ;",
+                "forget 9 ;"}) {
             Check.fine(ONE + line);
             String[] tokens = line.split(" ");
             for (int at = 0; at < tokens.length; at++) {
@@ -434,6 +440,7 @@ public final class TextEdgesTest {
         Check.due("the tape is empty, too", 0, () -> x.count(4));
         Check.due("nobody", 0, () -> x.count(0));
 
+        goneBehindAHouse();
         Check.promise(3, "IllegalArgumentException: the tape has not so many, n below 0 (nothing changes).");
         FullHouse y = Check.houseOf("person 7;");
         Check.due("one of none", Check.ILLEGAL, () -> y.house(1));
@@ -450,6 +457,39 @@ public final class TextEdgesTest {
         Check.due("the house stays", 7, () -> y.person(0, 0));
         Check.due("the text is there still", 0, () -> y.house(20));
         Check.due("it is the house", 9, () -> y.person(1, 0));
+    }
+
+    private static void goneBehindAHouse() {
+        Check.promise(3, "The TOLD ROW, what is kept, WEEKS, the image are gone (STATUS stays).");
+        String same = ONE + "can 0 0 1;";
+        for (String text : new String[] {same, "person 5;person 5;work 1 1;work 2 2;", "work 1 1;", "person 5;", ""}) {
+            FullHouse x = Check.houseOf(same);
+            Check.feed(x, "X");
+            x.house(1);
+            x.tell(0, 0);
+            x.tell(1, 0);
+            x.on(1);
+            x.day(1);
+            x.begin(1);
+            x.on(3);
+            x.image();
+            Check.feed(x, text);
+            Check.due("house of " + text, 0, () -> x.house(text.length()));
+            int works = x.count(1);
+            int people = x.count(0);
+            Check.due("told row behind " + text, works == 0 ? -1 : 1, () -> x.judge((1 << people) - 1));
+            Check.due("what is kept behind " + text, Check.NO_SUCH, () -> x.does(0));
+            Check.due("weeks behind " + text, 0, () -> x.count(8));
+            Check.due("week 0 behind " + text, Check.NO_SUCH, () -> x.week(0, 0));
+            Check.due("knows behind " + text, Check.NO_SUCH, () -> x.knows(0));
+            Check.due("an image behind " + text, 0, () -> Check.bit(x.image()));
+            Check.due("the image behind " + text, 0, () -> Check.bit(x.restore()));
+            for (int status = 5; status <= 7; status++) {
+                int of = status;
+                Check.due("status behind " + text, 1, () -> x.count(of));
+            }
+            Check.due("no weeks behind " + text, -1, () -> x.on(0));
+        }
     }
 
     private static void faultPlaces() {

@@ -6,22 +6,6 @@ public final class WeeksEdgesTest {
     private static final int[] SEEDS = {0, 1, -1, 2, 77, 4711, 65535, 65536, 1 << 30, Integer.MAX_VALUE,
         Integer.MAX_VALUE - 1, Integer.MIN_VALUE, Integer.MIN_VALUE + 1, 0x12345678, 0xdeadbeef};
 
-    private static String canAll(int person, int works) {
-        StringBuilder text = new StringBuilder();
-        for (int w = 0; w < works; w++) {
-            text.append("can ").append(person).append(' ').append(w).append(" 1;");
-        }
-        return text.toString();
-    }
-
-    private static String worksInTurn(int works) {
-        StringBuilder text = new StringBuilder();
-        for (int w = 0; w < works; w++) {
-            text.append("work ").append(w).append(" 1;");
-        }
-        return text.toString();
-    }
-
     /** The draw of 1000 of a week, by whole numbers that know no wrap-around. */
     private static int draw(int seed, int week) {
         BigInteger wraps = BigInteger.ONE.shiftLeft(32);
@@ -43,7 +27,8 @@ public final class WeeksEdgesTest {
 
     private static void looks() {
         // 0 to 4 do a work each by 9; 5 does all others, and theirs when they are away, by 1
-        StringBuilder text = new StringBuilder("person 24 drawn 100;".repeat(6) + worksInTurn(8) + canAll(5, 8));
+        StringBuilder text = new StringBuilder("person 24 drawn 100;".repeat(6) + Houses.worksInTurn(8)
+                + Houses.canAll(5, 8, 1));
         for (int p = 0; p < 5; p++) {
             text.append("can ").append(p).append(' ').append(p).append(" 9;");
         }
@@ -57,7 +42,7 @@ public final class WeeksEdgesTest {
 
         Check.promise(20, "IllegalArgumentException: bits of WORKS that there aren't.");
         for (int works = 0; works <= 8; works++) {
-            FullHouse y = Check.houseOf("person 5;" + worksInTurn(works));
+            FullHouse y = Check.houseOf("person 5;" + Houses.worksInTurn(works));
             int all = (1 << works) - 1;
             Check.due("all " + works, 1000, () -> y.looks(all));
             Check.due("one more than " + works, Check.ILLEGAL, () -> y.looks(all + 1));
@@ -90,8 +75,9 @@ public final class WeeksEdgesTest {
         Check.due("no works: best 0", 0, () -> new FullHouse().best(0));
         Check.due("no works: best 1", Check.ILLEGAL, () -> new FullHouse().best(1));
 
-        Check.terms("BEST LOOKS: of all sets of so many WORKS that by which he is likeliest right, of like ones the least as bits.");
-        FullHouse second = Check.houseOf("person 9 drawn 300;person 9;work 1 1;work 2 1;work 3 1;" + canAll(1, 3)
+        Check.terms("BEST LOOKS: of all sets of so many WORKS that by which he is likeliest right, of like ones the "
+                + "least as bits.");
+        FullHouse second = Check.houseOf("person 9 drawn 300;person 9;work 1 1;work 2 1;work 3 1;" + Houses.canAll(1, 3, 1)
                 + "can 0 1 9;can 0 2 9;");
         Check.due("the second as good as the third", 2, () -> second.best(1));
         Check.due("the first with the second", 3, () -> second.best(2));
@@ -100,7 +86,8 @@ public final class WeeksEdgesTest {
     private static void guesses() {
         Check.terms("When LEFT can't, all WORKS are done by nobody.");
         // without 0 the first can't be done, so that the second is done by nobody too
-        FullHouse x = Check.houseOf("person 9 drawn 300;person 9 drawn 200;work 1 1;work 2 1;can 0 0 5;can 1 1 5;can 0 1 4;");
+        FullHouse x = Check.houseOf("person 9 drawn 300;person 9 drawn 200;work 1 1;work 2 1;can 0 0 5;can 1 1 5;can "
+                + "0 1 4;");
         Check.due("the second tells all", 1000, () -> x.looks(2));
         Check.due("the first tells 0", 800, () -> x.looks(1));
         FullHouse never = Check.houseOf("person 9 drawn 300;person 9 drawn 200;work 1 1;work 2 1;can 0 0 5;");
@@ -117,9 +104,11 @@ public final class WeeksEdgesTest {
         Check.due("no people", 1000, () -> new FullHouse().looks(0));
 
         Check.terms("how likely he is right, in thousandths, is the sum of the likeliest of each such class");
-        FullHouse like = Check.houseOf("person 9 drawn 250;person 9 drawn 250;person 9 drawn 250;work 1 1;can 0 0 1;can 1 0 1;can 2 0 1;");
+        FullHouse like = Check.houseOf("person 9 drawn 250;person 9 drawn 250;person 9 drawn 250;work 1 1;can 0 0 1;"
+                + "can 1 0 1;can 2 0 1;");
         Check.due("four as likely, one class", 250, () -> like.looks(1));
-        FullHouse apart = Check.houseOf("person 9 drawn 250;person 9 drawn 250;person 9 drawn 250;work 1 1;can 0 0 3;can 1 0 2;");
+        FullHouse apart = Check.houseOf("person 9 drawn 250;person 9 drawn 250;person 9 drawn 250;work 1 1;can 0 0 3;"
+                + "can 1 0 2;");
         Check.due("four as likely, two classes", 500, () -> apart.looks(1));
     }
 
@@ -170,7 +159,8 @@ public final class WeeksEdgesTest {
     }
 
     private static void seldom() {
-        Check.terms("SELDOM: that one isn't drawn on n days (0 to 5000): 1,000,000,000, each day by (1000 less his CHANCE), by 1000, cut down.");
+        Check.terms("SELDOM: that one isn't drawn on n days (0 to 5000): 1,000,000,000, each day by (1000 less his "
+                + "CHANCE), by 1000, cut down.");
         FullHouse x = Check.houseOf("person 5 drawn 333;person 5 drawn 1;person 5;");
         FullHouse always = Check.houseOf("person 5 drawn 1000;");
         FullHouse mostly = Check.houseOf("person 5 drawn 999;");
@@ -200,20 +190,23 @@ public final class WeeksEdgesTest {
     }
 
     private static void draws() {
-        Check.terms("A seed becomes itself times 1103515245 and 12345 (an int that wraps); a DRAW of n is its bits 16 to 30 MOD n then.");
+        Check.terms("A seed becomes itself times 1103515245 and 12345 (an int that wraps); a DRAW of n is its bits 16 "
+                + "to 30 MOD n then.");
         for (int seed : SEEDS) {
             for (int week = 0; week < 12; week++) {
                 int drawn = draw(seed, week);
                 int of = week;
                 // just this draw hits the one chance of the second
-                FullHouse x = Check.houseOf("person 5 drawn " + drawn + ";person 5 drawn 1;person 5 drawn " + (999 - drawn) + ";");
+                FullHouse x = Check.houseOf("person 5 drawn " + drawn + ";person 5 drawn 1;person 5 drawn "
+                        + (999 - drawn) + ";");
                 x.begin(seed);
                 x.on(week + 1);
                 Check.due("seed " + seed + " week " + week + " draws " + drawn, 1, () -> x.week(of, 0));
             }
         }
 
-        Check.terms("a DRAW of 1000: the first PERSON by whom CHANCES, together, are above it is away; if there is none, nobody.");
+        Check.terms("a DRAW of 1000: the first PERSON by whom CHANCES, together, are above it is away; if there is "
+                + "none, nobody.");
         for (int drawn : new int[] {0, 1, 500, 998, 999}) {
             int seed = seedOfDraw(drawn);
             away("person 5 drawn " + drawn + ";", seed, -1);
@@ -234,7 +227,12 @@ public final class WeeksEdgesTest {
         Check.due("away of " + text + " by " + seed, who, () -> x.week(0, 0));
     }
 
+    /** Who was away is 0 or nobody, as he is drawn always or never. */
     private static void week(FullHouse x, int week, int... row) {
+        boolean drawn = x.count(0) > 0 && x.person(0, 1) == 1000;
+        if (drawn || x.count(0) == 0 || x.person(0, 1) == 0) {
+            Check.due("week " + week + " away", drawn ? 0 : -1, () -> x.week(week, 0));
+        }
         int done = 0;
         for (int w = 0; w < row.length; w++) {
             int what = 10 + w;
@@ -255,29 +253,33 @@ public final class WeeksEdgesTest {
     }
 
     private static void rows() {
-        Check.terms("WORKS are given to those who are LEFT and KNOW them (nobody two at one hour, or more hours than his; some may be nobody's)");
+        Check.terms("WORKS are given to those who are LEFT and KNOW them (nobody two at one hour, or more hours than "
+                + "his; some may be nobody's)");
         week(lived("person 9 drawn 1000;work 1 1;can 0 0 1;", 1), 0, -1);
         week(lived("person 9 drawn 1000;person 9;work 1 1;can 0 0 1;can 1 0 1;", 1), 0, 1);
         week(lived("person 9;work 1 1;work 2 1;can 0 1 1;", 1), 0, -1, 0);
-        week(lived("person 9;work 1 2;work 2 1;work 3 1;" + canAll(0, 3), 1), 0, 0, -1, 0);
-        week(lived("person 2;work 1 1;work 2 1;work 3 1;" + canAll(0, 3), 1), 0, 0, 0, -1);
-        week(lived("person 3;work 1 1;work 2 1;work 3 1;" + canAll(0, 3), 1), 0, 0, 0, 0);
+        week(lived("person 9;work 1 2;work 2 1;work 3 1;" + Houses.canAll(0, 3, 1), 1), 0, 0, -1, 0);
+        week(lived("person 2;work 1 1;work 2 1;work 3 1;" + Houses.canAll(0, 3, 1), 1), 0, 0, 0, -1);
+        week(lived("person 3;work 1 1;work 2 1;work 3 1;" + Houses.canAll(0, 3, 1), 1), 0, 0, 0, 0);
         week(lived("person 0;work 1 1;can 0 0 1;", 1), 0, -1);
+        week(lived("person 0;" + Houses.worksInTurn(8) + Houses.canAll(0, 8, 1), 1), 0, -1, -1, -1, -1, -1, -1, -1, -1);
+        week(lived("person 1;" + Houses.worksInTurn(7) + "work 7 2;can 0 7 1;", 1), 0, -1, -1, -1, -1, -1, -1, -1, -1);
         week(lived("person 9;work 1 1;learn 0 0 9 1;", 1), 0, -1);
         week(lived("work 1 1;", 1), 0, -1);
         week(lived("", 1), 0);
 
         Check.terms("as many WORKS as can be");
         // the first is never done, however long it waits
-        FullHouse many = lived("person 2;work 1 2;work 3 1;work 4 1;" + canAll(0, 3), 200);
+        FullHouse many = lived("person 2;work 1 2;work 3 1;work 4 1;" + Houses.canAll(0, 3, 1), 200);
         for (int week : new int[] {0, 1, 100, 199}) {
             week(many, week, -1, 0, 0);
         }
 
         Check.terms("with the most WEEKS together since he who does it did it last (that week, counted from 0, "
                 + "less the one of the last time; never: the week and 1)");
-        FullHouse turns = lived("person 24;".repeat(6) + worksInTurn(8) + canAll(0, 8) + canAll(1, 8) + canAll(2, 8)
-                + canAll(3, 8) + canAll(4, 8) + canAll(5, 8), 200);
+        FullHouse turns = lived("person 24;".repeat(6) + Houses.worksInTurn(8) + Houses.canAll(0, 8, 1)
+                + Houses.canAll(1, 8, 1) + Houses.canAll(2, 8, 1)
+                + Houses.canAll(3, 8, 1) + Houses.canAll(4, 8, 1) + Houses.canAll(5, 8, 1), 200);
         for (int week : new int[] {0, 1, 2, 5, 6, 7, 11, 12, 198, 199}) {
             int who = week % 6;
             week(turns, week, who, who, who, who, who, who, who, who);
@@ -289,23 +291,26 @@ public final class WeeksEdgesTest {
         week(two, 2, 0);
 
         Check.terms("of like ones the first as a row (nobody comes behind all)");
-        FullHouse one = lived("person 1;" + worksInTurn(8) + canAll(0, 8), 9);
+        FullHouse one = lived("person 1;" + Houses.worksInTurn(8) + Houses.canAll(0, 8, 1), 9);
         for (int week = 0; week < 9; week++) {
             int[] row = {-1, -1, -1, -1, -1, -1, -1, -1};
             row[week % 8] = 0;
             week(one, week, row);
         }
-        week(lived("person 1;person 1;work 1 1;work 2 1;" + canAll(0, 2) + canAll(1, 2), 1), 0, 0, 1);
-        week(lived("person 1;person 1;work 1 1;work 2 1;work 3 1;" + canAll(0, 3) + canAll(1, 3), 1), 0, 0, 1, -1);
+        week(lived("person 1;person 1;work 1 1;work 2 1;" + Houses.canAll(0, 2, 1) + Houses.canAll(1, 2, 1), 1), 0, 0, 1);
+        week(lived("person 1;person 1;work 1 1;work 2 1;work 3 1;" + Houses.canAll(0, 3, 1)
+                + Houses.canAll(1, 3, 1), 1), 0, 0, 1, -1);
     }
 
     private static void forgetting() {
         Check.terms("at first each KNOWS WORKS at which his SKILL is above 0");
-        FullHouse first = lived("person 1;person 1;" + worksInTurn(8) + canAll(0, 8) + "can 1 7 9;learn 1 0 1 1;", 0);
+        FullHouse first = lived("person 1;person 1;" + Houses.worksInTurn(8) + Houses.canAll(0, 8, 1)
+                + "can 1 7 9;learn 1 0 1 1;", 0);
         Check.due("all", 255, () -> first.knows(0));
         Check.due("the last", 128, () -> first.knows(1));
 
-        Check.terms("(weeks ahead of week 0: not forgotten by these alone, so none is forgotten ahead of week FORGET less 1)");
+        Check.terms("(weeks ahead of week 0: not forgotten by these alone, so none is forgotten ahead of week FORGET "
+                + "less 1)");
         for (int forget : new int[] {1, 2, 3, 49, 50}) {
             String text = "person 9 drawn 1000;work 1 1;can 0 0 1;forget " + forget + ";";
             FullHouse before = lived(text, forget - 1);
@@ -323,7 +328,7 @@ public final class WeeksEdgesTest {
             doneOnce(forget);
         }
         // he does one a week of three, each every third: a week less, and the third is gone
-        String three = "person 1;" + worksInTurn(3) + canAll(0, 3);
+        String three = "person 1;" + Houses.worksInTurn(3) + Houses.canAll(0, 3, 1);
         Check.due("forget 3", 7, () -> lived(three + "forget 3;", 60).knows(0));
         Check.due("forget 2, behind week 0", 7, () -> lived(three + "forget 2;", 1).knows(0));
         Check.due("forget 2, behind week 1", 3, () -> lived(three + "forget 2;", 2).knows(0));
@@ -362,6 +367,29 @@ public final class WeeksEdgesTest {
             right &= draw(seed, week) < 500;
         }
         return right;
+    }
+
+    /** 6 people, 8 works, 200 weeks: one of them is away in most, and all is done by turns. */
+    private static void fullHouse() {
+        Check.terms("A HOUSE has PEOPLE 0, 1 .. (at most 6)");
+        StringBuilder text = new StringBuilder("person 24 drawn 166;".repeat(6) + Houses.worksInTurn(8));
+        for (int p = 0; p < 6; p++) {
+            text.append(Houses.canAll(p, 8, 1));
+        }
+        for (String forget : new String[] {"", "forget 1;", "forget 50;"}) {
+            FullHouse x = lived(text + forget, 200);
+            for (int week = 0; week < 200; week += 11) {
+                int of = week;
+                int draw = draw(0, week);
+                Check.due("away in week " + week, draw / 166 < 6 ? draw / 166 : -1, () -> x.week(of, 0));
+            }
+            Check.due("done in week 0", 8, () -> x.week(0, 1));
+            for (int p = 0; p < 6; p++) {
+                int of = p;
+                String want = forget.equals("forget 1;") ? "0" : "255";
+                Check.due("known by " + p + " with " + forget, want, () -> x.knows(of));
+            }
+        }
     }
 
     private static void bounds() {
@@ -415,7 +443,7 @@ public final class WeeksEdgesTest {
 
     private static void weeksThatHaveBeen() {
         Check.promise(26, "NoSuchElementException: it hasn't been, another what.");
-        FullHouse x = Check.houseOf("person 24;" + worksInTurn(8) + canAll(0, 8));
+        FullHouse x = Check.houseOf("person 24;" + Houses.worksInTurn(8) + Houses.canAll(0, 8, 1));
         Check.due("none have begun", Check.NO_SUCH, () -> x.week(0, 0));
         x.begin(1);
         Check.due("none have been", Check.NO_SUCH, () -> x.week(0, 0));
@@ -467,7 +495,11 @@ public final class WeeksEdgesTest {
 
     private static String story(FullHouse x, int works) {
         StringBuilder all = new StringBuilder();
-        for (int week = Math.max(0, x.count(8) - 20); week < x.count(8); week++) {
+        for (int week = 0; week < x.count(8); week++) {
+            // an object is good for 512 calls
+            if (week >= 10 && week < x.count(8) - 10) {
+                continue;
+            }
             all.append(week).append(':').append(x.week(week, 0));
             for (int w = 0; w < works; w++) {
                 all.append(' ').append(x.week(week, 10 + w));
@@ -483,7 +515,7 @@ public final class WeeksEdgesTest {
     private static void images() {
         Check.promise(28, "False: none have begun.");
         FullHouse x = Check.houseOf("person 3 drawn 200;person 3 drawn 300;person 4 drawn 300;work 1 2;work 2 2;work 6 1;"
-                + canAll(0, 3) + canAll(1, 3) + canAll(2, 2) + "forget 3;");
+                + Houses.canAll(0, 3, 1) + Houses.canAll(1, 3, 1) + Houses.canAll(2, 2, 1) + "forget 3;");
         Check.due("none have begun", 0, () -> Check.bit(x.image()));
         Check.promise(29, "They are as the image again: true. False: there is none.");
         Check.due("there is none", 0, () -> Check.bit(x.restore()));
@@ -494,7 +526,8 @@ public final class WeeksEdgesTest {
         Check.due("they stay", 2, () -> x.count(8));
         Check.due("nothing was counted", 0, () -> x.count(7));
 
-        Check.promise(28, "WEEKS (all that has been, who KNOWS what, the seed) are kept as an image, in place of another one: true.");
+        Check.promise(28, "WEEKS (all that has been, who KNOWS what, the seed) are kept as an image, in place of "
+                + "another one: true.");
         x.begin(9);
         Check.due("of no weeks yet", 1, () -> Check.bit(x.image()));
         x.on(7);
@@ -514,7 +547,8 @@ public final class WeeksEdgesTest {
         Check.same("the same goes on", story(x, 3), fourteen);
         x.restore();
         Check.same("the image is there still", story(x, 3), seven);
-        FullHouse full = lived("person 3 drawn 200;person 3 drawn 300;work 1 2;work 2 2;" + canAll(0, 2) + canAll(1, 2) + "forget 50;", 200);
+        FullHouse full = lived("person 3 drawn 200;person 3 drawn 300;work 1 2;work 2 2;" + Houses.canAll(0, 2, 1)
+                + Houses.canAll(1, 2, 1) + "forget 50;", 200);
         String last = story(full, 2);
         full.image();
         full.begin(3);
@@ -536,6 +570,7 @@ public final class WeeksEdgesTest {
         draws();
         rows();
         forgetting();
+        fullHouse();
         bounds();
         weeksThatHaveBeen();
         images();
