@@ -353,6 +353,9 @@ public final class DayEdgesTest {
         learn(eight + Houses.canAll(1, 8, 1), false, 0, 0, 0);
         learn("", false, 0, 0, 0);
         learn("", true, 0, 0, 0);
+        // nobody: it holds, though no work has two, or three, who can do it
+        learn("work 1 1;", false, 0, 0, -1);
+        learn("work 1 1;", true, 0, 0, -1);
         learn("person 5;", false, 0, 0, 0);
         learn("person 5;", true, 0, 0, 0);
         String three = "person 5;person 5;person 5;work 1 1;can 0 0 1;";
