@@ -70,6 +70,23 @@ public final class RulesTest {
         return text.toString();
     }
 
+    /** The document's own lines of the face are those that are held here against the class. */
+    private static void document(Path file) throws IOException {
+        Matcher block = Pattern.compile("(?s)## The public face.*?```java\n(.*?)```").matcher(Files.readString(file));
+        need(block.find(), "the document has no face");
+        Set<String> told = new TreeSet<>();
+        for (String line : block.group(1).split("\n")) {
+            Matcher method = Pattern.compile(" *public (\\w+) (\\w+)\\((.*?)\\)(?: throws (.*))?;").matcher(line);
+            if (method.matches()) {
+                String parameters = method.group(3).replaceAll("(\\w+) \\w+(, )?", "$1,").replaceAll(",$", "");
+                String thrown = method.group(4) == null ? "" : " " + method.group(4).replace(",", "");
+                told.add(method.group(2) + "(" + parameters + ")" + method.group(1) + thrown);
+            }
+        }
+        Set<String> due = new TreeSet<>(Arrays.asList(FACE.strip().split("\n")));
+        need(due.equals(told), "the document's face is " + told + ", held is " + due);
+    }
+
     private static void hidden(Member member) {
         need(Modifier.isPrivate(member.getModifiers()) || member.isSynthetic(), member + " isn't private");
     }
@@ -167,8 +184,10 @@ public final class RulesTest {
     }
 
     public static void main(String[] args) throws IOException, NoSuchFieldException {
+        Path root = Path.of(args.length > 0 ? args[0] : ".");
+        document(root.resolve("../shared/DOC.md"));
         face();
-        text(Path.of(args.length > 0 ? args[0] : ".", "src/main/java/FullHouse.java"));
+        text(root.resolve("src/main/java/FullHouse.java"));
         System.exit(wrong == 0 ? 0 : 1);
     }
 }
